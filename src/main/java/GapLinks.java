@@ -47,9 +47,7 @@ public final class GapLinks {
     private static final int HIGHEST_NUMBER = 255;
     private static final int REMEMBERED = 10;
 
-    private final byte[] tape = new byte[TAPE_ROOM];
-    private int fed = 0;
-    private final Reader reader = new Reader(tape);
+    private final Reader reader = new Reader();
     private Plan plan = new Plan();
     private final Envelope envelope = new Envelope();
     private final State now = new State();
@@ -66,22 +64,21 @@ public final class GapLinks {
     // ---- the bus
 
     public int feed(int a, int b, int c, int d, int e) {
-        if (fed + FED_AT_ONCE > TAPE_ROOM) {
+        if (reader.fed + FED_AT_ONCE > TAPE_ROOM) {
             return NONE;
         }
-        append(a);
-        append(b);
-        append(c);
-        append(d);
-        append(e);
-        return fed;
+        reader.append(a);
+        reader.append(b);
+        reader.append(c);
+        reader.append(d);
+        reader.append(e);
+        return reader.fed;
     }
 
     public int bus(int n) {
-        if (n < 0 || n > fed) {
+        if (n < 0 || n > reader.fed) {
             return refuse(A_NUMBER);
         }
-        fed = 0;
         reader.read(n);
         latestFault = reader.fault;
         faultPlace = reader.place;
@@ -471,7 +468,7 @@ public final class GapLinks {
 
     public int size(int what) {
         switch (what) {
-            case 0: return fed;
+            case 0: return reader.fed;
             case 1: return plan.allReceivers();
             case 2: return now.allWaiting();
             case 3: return now.ports.frames;
@@ -501,13 +498,6 @@ public final class GapLinks {
         trouble = NO_TROUBLE;
         int shift = Math.min(Envelope.UNIT_BITS, Long.numberOfTrailingZeros(units));
         return lower ? Envelope.UNIT >> shift : units >> shift;
-    }
-
-    private void append(int four) {
-        for (int shift = 24; shift >= 0; shift -= 8) {
-            tape[fed] = (byte) (four >> shift);
-            fed++;
-        }
     }
 
     private boolean noBus() {
@@ -683,7 +673,7 @@ public final class GapLinks {
         }
     }
 
-    /** Reads the text of a bus into a plan. Behind the first fault nothing more is read. */
+    /** Holds the tape, and reads the text of a bus from it into a plan. Behind the first fault nothing more is read. */
     private static final class Reader {
         static final int NO_FAULT = 0;
         private static final int FORM = 1;
@@ -717,7 +707,8 @@ public final class GapLinks {
         private static final long LENGTH = 0x6c656e6774682020L;
         private static final long TO = 0x746f202020202020L;
 
-        private final byte[] text;
+        private final byte[] tape = new byte[TAPE_ROOM];
+        int fed = 0;
         private Plan draft = new Plan();
         private int textLength = 0;
         private int start = 0;
@@ -729,8 +720,11 @@ public final class GapLinks {
         int fault = NO_FAULT;
         int place = NONE;
 
-        Reader(byte[] text) {
-            this.text = text;
+        void append(int four) {
+            for (int shift = 24; shift >= 0 && fed < TAPE_ROOM; shift -= 8) {
+                tape[fed] = (byte) (four >> shift);
+                fed++;
+            }
         }
 
         /** Gives the plan that was read, and takes another in which the next may be drafted. */
@@ -740,8 +734,10 @@ public final class GapLinks {
             return read;
         }
 
+        /** Reads the first bytes of the tape, which is empty then. */
         void read(int n) {
-            textLength = Math.min(n, text.length);
+            textLength = Math.min(n, fed);
+            fed = 0;
             behind = 0;
             busTold = false;
             fault = NO_FAULT;
@@ -915,18 +911,18 @@ public final class GapLinks {
                 return;
             }
             start = behind;
-            while (start < textLength && text[start] == ' ') {
+            while (start < textLength && tape[start] == ' ') {
                 start++;
             }
             behind = start;
             if (start >= textLength) {
                 kind = FINISH;
-            } else if (text[start] == ';') {
+            } else if (tape[start] == ';') {
                 kind = SEMICOLON;
                 behind = start + 1;
-            } else if (isLetter(text[start])) {
+            } else if (isLetter(tape[start])) {
                 stepWord();
-            } else if (isDigit(text[start])) {
+            } else if (isDigit(tape[start])) {
                 stepWhole();
             } else {
                 kind = NO_TOKEN;
@@ -935,8 +931,8 @@ public final class GapLinks {
 
         private void stepWord() {
             word = 0;
-            while (behind < textLength && isLetter(text[behind])) {
-                word = word << 8 | text[behind];
+            while (behind < textLength && isLetter(tape[behind])) {
+                word = word << 8 | tape[behind];
                 behind++;
             }
             for (int k = behind - start; k < WORD_ROOM; k++) {
@@ -947,8 +943,8 @@ public final class GapLinks {
 
         private void stepWhole() {
             whole = 0;
-            while (behind < textLength && isDigit(text[behind])) {
-                whole = whole * 10 + (text[behind] - '0');
+            while (behind < textLength && isDigit(tape[behind])) {
+                whole = whole * 10 + (tape[behind] - '0');
                 behind++;
             }
             kind = behind - start <= WHOLE_ROOM ? WHOLE : NO_TOKEN;

@@ -3,6 +3,7 @@ final class ActTest {
     private static final String SHORT = "bus switches 1 room 12 jitter 400 window 2 skew 60;end a at 0;end b at 0;"
             + "end c at 0;link k from a gap 8 length 2 to b;link m from a gap 256 length 3 to c;"
             + "link n from b gap 8 length 1 to a";
+    private static final String STRICT = SHORT.replace("jitter 400", "jitter 9");
 
     private static final Check CHECK = new Check("ActTest");
 
@@ -206,9 +207,8 @@ final class ActTest {
         CHECK.due("quiet behind 1999 ticks", 1999, y.quiet());
     }
 
-    /** At 1 .. 16 * 128 + 1 .. messages of a link go, so that it is quiet behind just 2001 ticks. */
+    /** The last of sixteen messages goes at 1 + 15 * 128, by two lines of 40 ticks: quiet behind 2001 ticks. */
     private static GapLinks edge() {
-        // sent at 1 + 128 k, k up to 15, is 1921; two lines of 40 ticks make 2001
         GapLinks y = Check.bus("bus switches 1 room 1 jitter 0 window 1 skew 1;end a at 0;end b at 0;"
                 + "link k from a gap 128 length 40 to b");
         y.send(0, 16);
@@ -216,24 +216,35 @@ final class ActTest {
     }
 
     private static void keepAndBack() {
-        GapLinks x = Check.bus(SHORT);
+        GapLinks x = Check.bus(STRICT);
         CHECK.due("back() with nothing kept", false, x.back());
         CHECK.due("trouble()", 1, x.trouble());
+        x.babble(2, 20);
+        x.ticks(5);
+        x.down(1, 1);
+        x.babble(2, 5);
         x.send(0, 5);
         x.send(1, 2);
-        x.babble(2, 13);
-        x.down(1, 1);
-        x.ticks(12);
+        x.ticks(7);
+        x.babble(0, 3);
         String before = all(x);
         CHECK.due("keep()", true, x.keep());
         CHECK.due("trouble()", 0, x.trouble());
         CHECK.due("size(4)", 1, x.size(4));
+        x.ticks(3);
         x.down(1, 0);
         x.down(0, 1);
         x.send(2, 9);
         x.anew(0);
-        x.babble(0, 3);
-        x.ticks(100);
+        for (int k = 0; k < 5; k++) {
+            x.babble(0, 12);
+            x.babble(1, 3);
+            x.babble(2, 20);
+            x.ticks(30);
+            x.down(0, 0);
+        }
+        CHECK.due("more were policed", true, x.policed(0, 2) > 0 && x.policed(1, 2) > 0);
+        CHECK.due("more were refused", true, x.heard(2, 0, 1) > 0);
         CHECK.due("all is another", false, before.equals(all(x)));
         CHECK.due("back()", true, x.back());
         CHECK.due("trouble()", 0, x.trouble());

@@ -58,6 +58,10 @@ final class EnvelopeTest {
                 + "link k from a gap 8 length 8 to b");
         load(full, 0, 1, 1);
         load(full, 6, 0, 1);
+        delay(full, 0, 8, 1);
+        CHECK.due("fullest(), the first of all", 0, full.fullest());
+        full.at(99);
+        CHECK.due(full, "load behind a refusal", 1, full.load(0, false), 0);
     }
 
     private static void delays() {
@@ -134,6 +138,8 @@ final class EnvelopeTest {
         CHECK.refused(x, "keeps(2, 1)", x.keeps(2, 1), 1);
         CHECK.due(x, "fullest()", 7, x.fullest(), 0);
         CHECK.due(x, "through(7)", 3, x.through(7), 0);
+        Check.read(x, Check.THREE);
+        delay(x, 0, 4, 1);
     }
 
     private static void keeps() {
@@ -184,6 +190,9 @@ final class EnvelopeTest {
                 + "link k from a gap 256 length 40 to b;link m from a gap 16 length 8 to c");
         CHECK.due("leastGap(0): 40/64 and 1/2 is above 1", 128, y.leastGap(0));
         CHECK.due("leastGap(1): 8/8 and 40/256 is above 1", 16, y.leastGap(1));
+        GapLinks u = Check.bus("bus switches 1 room 1 jitter 0 window 1 skew 1;end a at 0;end b at 0;end c at 0;"
+                + "link k from a gap 256 length 40 to b;link m from a gap 256 length 1 to c;link n from a gap 16 length 13 to c");
+        CHECK.due("leastGap(0): 40/256, 1/256 and 208/256", 256, u.leastGap(0));
         GapLinks z = Check.bus("bus switches 1 room 1 jitter 0 window 1 skew 1;end a at 0;end b at 0;"
                 + "link k from a gap 256 length 40 to b");
         CHECK.due("leastGap(0), LENGTH at least", 64, z.leastGap(0));

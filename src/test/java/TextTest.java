@@ -10,6 +10,7 @@ final class TextTest {
         newObject();
         tape();
         numbers();
+        partOfTheTape();
         wellFormed();
         bounds();
         form();
@@ -62,6 +63,10 @@ final class TextTest {
         CHECK.refused(x, "willHear(1, 0, 0, 0)", x.willHear(1, 0, 0, 0), 1);
         CHECK.refused(x, "willLose(1, 0, 0)", x.willLose(1, 0, 0), 1);
         CHECK.refused(x, "quiet()", x.quiet(), 1);
+        CHECK.due(x, "keep()", 0, x.keep() ? 1 : 0, 1);
+        x.bus(0);
+        CHECK.due(x, "keep()", 0, x.keep() ? 1 : 0, 1);
+        CHECK.due(x, "back()", 0, x.back() ? 1 : 0, 1);
         CHECK.noSilent(x, 0);
     }
 
@@ -101,6 +106,20 @@ final class TextTest {
         CHECK.due("bus() again", 1, Check.read(x, GOOD));
         CHECK.due("fault() without one", 0, x.fault());
         CHECK.due("where() without one", -1, x.where());
+    }
+
+    private static void partOfTheTape() {
+        GapLinks x = new GapLinks();
+        Check.feed(x, GOOD + "cd;bus");
+        CHECK.due("a word is cut by n", 1, x.bus(GOOD.length()));
+        String digits = BUS + "5;";
+        Check.feed(x, digits);
+        CHECK.refused(x, "a whole is cut by n", x.bus(BUS.length()), 4);
+        CHECK.due("the end is at n", BUS.length(), x.where());
+        CHECK.due("no link", 6, x.fault());
+        Check.feed(x, BUS.replace("skew 1", "skew 9999"));
+        CHECK.refused(x, "a whole of three digits by n", x.bus(BUS.length() + 2), 4);
+        CHECK.due("no link", 6, x.fault());
     }
 
     private static void fine(String text, int links) {
@@ -329,6 +348,20 @@ final class TextTest {
         CHECK.due("no port of the one ahead", -1, x.port(0, 13, 0));
         CHECK.due("through", 1, x.through(0));
         CHECK.due("through of a way that is no more", 0, x.through(6));
+        // the third of several buses may find what the first left
+        CHECK.due("and another", 3, Check.read(x, Check.THREE));
+        CHECK.due("its way", 13, x.way(0, 1, 2));
+        CHECK.due("the end of its way", -1, x.way(0, 1, 4));
+        CHECK.due("one with other ways", 1, Check.read(x, GOOD.replace("from a", "from c").replace("to b", "to a")));
+        CHECK.due("its way", 14, x.way(0, 0, 1));
+        CHECK.due("no old way", 0, x.through(12));
+        CHECK.due("and a third", 1, Check.read(x, GOOD.replace("to b", "to d")));
+        CHECK.due("receivers", 1, x.size(1));
+        CHECK.due("ends", 5, x.about(5));
+        x.send(0, 1);
+        CHECK.due("one receiver", 1, x.ticks(100));
+        CHECK.due("no frame strays", 0, x.port(0, 12, 3));
+        CHECK.due("burst", 8, x.burst(0, 0, 1, false));
     }
 
     private static void whereIsForgotten() {

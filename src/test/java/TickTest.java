@@ -202,6 +202,7 @@ final class TickTest {
         CHECK.due("none of m began", -2, x.waits(1, 4));
         x.ticks(5);
         CHECK.due("WAIT of m", 5, x.waits(1, 4));
+        CHECK.due("m is being sent", 1, x.port(0, 0, 1));
         x.ticks(50);
         x.babble(1, 1);
         x.ticks(1);
@@ -211,6 +212,13 @@ final class TickTest {
         CHECK.due("WAIT of k ahead of the tick", 0, x.waits(0, 4));
         x.ticks(1);
         CHECK.due("WAIT of a frame that babbled", 1, x.waits(0, 4));
+        GapLinks y = Check.bus("bus switches 1 room 12 jitter 0 window 2 skew 60;end a at 0;end b at 0;end c at 0;"
+                + "link k from b gap 64 length 5 to a;link m from c gap 64 length 5 to a");
+        y.send(0, 1);
+        y.send(1, 1);
+        y.ticks(20);
+        CHECK.due("m was late", 15, y.heard(1, 0, 6));
+        CHECK.due("m did not WAIT in its END's port", 0, y.waits(1, 4));
     }
 
     private static void ports() {
@@ -257,6 +265,12 @@ final class TickTest {
         // the first is through at 11: five were in it behind tick 2
         x.ticks(10);
         CHECK.due("the most behind a tick in which nothing went", 5, x.port(0, 0, 3));
+        GapLinks z = Check.bus(text);
+        z.babble(0, 1);
+        z.ticks(9);
+        z.babble(0, 4);
+        z.ticks(2);
+        CHECK.due("the most behind the tick ahead of that in which one went", 5, z.port(0, 0, 3));
         GapLinks y = Check.bus(text);
         y.babble(0, 1);
         y.ticks(10);
