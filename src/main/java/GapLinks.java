@@ -1264,7 +1264,7 @@ public final class GapLinks {
             if (number == 0) {
                 return latest != 0;
             }
-            int ahead = latest == 0 ? number : Math.floorMod(number - latest, HIGHEST_NUMBER);
+            int ahead = latest == 0 ? number : (number - latest + HIGHEST_NUMBER) % HIGHEST_NUMBER;
             return ahead >= 1 && ahead <= plan.window;
         }
 

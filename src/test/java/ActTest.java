@@ -17,6 +17,7 @@ final class ActTest {
         willLose();
         quiet();
         keepAndBack();
+        keptNumbersTaken();
         keptMoreThanOnce();
         CHECK.finish();
     }
@@ -255,6 +256,21 @@ final class ActTest {
         CHECK.due("all is as it was kept", true, before.equals(all(x)));
         CHECK.due("the network is down as it was", 1, x.down(1, 1));
         CHECK.due("the other is not", 0, x.down(0, 0));
+    }
+
+    private static void keptNumbersTaken() {
+        GapLinks x = Check.bus(SHORT);
+        x.send(0, 12);
+        x.ticks(100);
+        CHECK.due("taken", 12, x.heard(0, 0, 0));
+        x.keep();
+        x.send(0, 15);
+        x.ticks(130);
+        CHECK.due("the latest", 26, x.taken(0, 0, 0));
+        x.back();
+        for (int k = 0; k < 10; k++) {
+            CHECK.due("taken(0, 0, " + k + ") as it was kept", 11 - k, x.taken(0, 0, k));
+        }
     }
 
     private static void keptMoreThanOnce() {

@@ -100,6 +100,7 @@ final class GreatestTest {
                 }
             }
         }
+        CHECK.due("an end without messages", 0, x.anew(5));
         x.ticks(600);
         CHECK.due("all is quiet", 0, x.quiet());
         for (int l = 0; l < 6; l++) {
