@@ -11,6 +11,7 @@ final class Check {
             + "link z from b gap 64 length 3 to c a";
 
     private final String test;
+    private String subject = "";
     private int calls = 0;
     private int wrong = 0;
 
@@ -18,11 +19,20 @@ final class Check {
         this.test = test;
     }
 
+    /** What the answers looked at from now on are about; told with each wrong one. */
+    void about(String what) {
+        subject = what + ": ";
+    }
+
+    int calls() {
+        return calls;
+    }
+
     void due(String call, long want, long got) {
         calls++;
         if (want != got) {
             wrong++;
-            System.out.println(test + ": " + call + " answered " + got + ", due is " + want);
+            System.out.println(test + ": " + subject + call + " answered " + got + ", due is " + want);
         }
     }
 
@@ -38,6 +48,26 @@ final class Check {
 
     void refused(GapLinks x, String call, long got, int trouble) {
         due(x, call, -1, got, trouble);
+    }
+
+    /** The text is that of a bus with so many links. */
+    GapLinks fine(String text, int links) {
+        GapLinks x = new GapLinks();
+        due(x, text, links, read(x, text), 0);
+        due(text + ": fault()", 0, x.fault());
+        due(text + ": where()", -1, x.where());
+        return x;
+    }
+
+    /** The text has this fault, at the place of the sign @ in it, which is no part of it. */
+    void fault(int sort, String marked) {
+        int place = marked.indexOf('@');
+        String text = marked.substring(0, place) + marked.substring(place + 1);
+        GapLinks x = new GapLinks();
+        refused(x, text, read(x, text), 4);
+        due(text + ": fault()", sort, x.fault());
+        due(text + ": where()", place, x.where());
+        due(text + ": size(0)", 0, x.size(0));
     }
 
     void noSilent(GapLinks x, int i) {

@@ -23,7 +23,7 @@ final class GreatestTest {
         CHECK.finish();
     }
 
-    private static String greatest() {
+    static String greatest() {
         StringBuilder text = new StringBuilder("bus switches 3 room 12 jitter 400 window 100 skew 999");
         for (int e = 0; e < 6; e++) {
             text.append(";end " + (char) ('a' + e) + " at " + AT[e]);

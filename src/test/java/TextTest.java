@@ -122,164 +122,146 @@ final class TextTest {
         CHECK.due("no link", 6, x.fault());
     }
 
-    private static void fine(String text, int links) {
-        GapLinks x = new GapLinks();
-        CHECK.due(x, text, links, Check.read(x, text), 0);
-        CHECK.due(text + ": fault()", 0, x.fault());
-        CHECK.due(text + ": where()", -1, x.where());
-    }
-
-    /** The text has this fault, at the place of the sign @ in it, which is no part of it. */
-    private static void fault(int sort, String marked) {
-        int place = marked.indexOf('@');
-        String text = marked.substring(0, place) + marked.substring(place + 1);
-        GapLinks x = new GapLinks();
-        CHECK.refused(x, text, Check.read(x, text), 4);
-        CHECK.due(text + ": fault()", sort, x.fault());
-        CHECK.due(text + ": where()", place, x.where());
-        CHECK.due(text + ": size(0)", 0, x.size(0));
-    }
-
     private static void wellFormed() {
-        fine(GOOD, 1);
-        fine("   " + GOOD.replace(";", " ;   ") + "   ", 1);
-        fine(GOOD.replace(" 2 room 3 ", "2room3").replace("at 0", "at0"), 1);
-        fine(GOOD + ";end f at 1;link l from f gap 256 length 40 to a b c", 2);
-        fine(BUS + ";end at at 0;end to at 1;end gap at 0;link from from at gap 8 length 1 to to gap", 1);
-        fine("bus switches 001 room 012 jitter 400 window 100 skew 999;end a at 000;end b at 00;"
+        CHECK.fine(GOOD, 1);
+        CHECK.fine("   " + GOOD.replace(";", " ;   ") + "   ", 1);
+        CHECK.fine(GOOD.replace(" 2 room 3 ", "2room3").replace("at 0", "at0"), 1);
+        CHECK.fine(GOOD + ";end f at 1;link l from f gap 256 length 40 to a b c", 2);
+        CHECK.fine(BUS + ";end at at 0;end to at 1;end gap at 0;link from from at gap 8 length 1 to to gap", 1);
+        CHECK.fine("bus switches 001 room 012 jitter 400 window 100 skew 999;end a at 000;end b at 00;"
                 + "link abcdefgh from a gap 064 length 040 to b", 1);
-        fine(BUS + ";end switches at 0;end b at 0;link k from switches gap 128 length 1 to b;"
+        CHECK.fine(BUS + ";end switches at 0;end b at 0;link k from switches gap 128 length 1 to b;"
                 + "link m from b gap 32 length 32 to switches", 2);
     }
 
     private static void bounds() {
         String tail = ";end a at 0;end b at 0;link k from a gap 8 length 1 to b";
-        fault(4, "bus switches @0 room");
-        fault(4, "bus switches @4");
-        fault(4, "bus switches 1 room @0");
-        fault(4, "bus switches 1 room @13 jitter");
-        fault(4, "bus switches 1 room 12 jitter @401");
-        fault(4, "bus switches 1 room 12 jitter 400 window @0");
-        fault(4, "bus switches 1 room 12 jitter 400 window @101");
-        fault(4, "bus switches 1 room 12 jitter 400 window 100 skew @0");
-        fine("bus switches 3 room 1 jitter 0 window 1 skew 1" + tail, 1);
-        fault(4, BUS + ";end a at @2");
-        fault(4, "bus switches 3 room 1 jitter 0 window 1 skew 1;end a at 2;end b at @3");
-        fault(4, ENDS + ";link k from a gap @0");
-        fault(4, ENDS + ";link k from a gap @4");
-        fault(4, ENDS + ";link k from a gap @12");
-        fault(4, ENDS + ";link k from a gap @512");
-        fault(4, ENDS + ";link k from a gap 8 length @0 to b");
-        fault(4, ENDS + ";link k from a gap 8 length @9 to b");
-        fault(4, ENDS + ";link k from a gap 32 length @33 to b");
-        fault(4, ENDS + ";link k from a gap 64 length @41 to b");
+        CHECK.fault(4, "bus switches @0 room");
+        CHECK.fault(4, "bus switches @4");
+        CHECK.fault(4, "bus switches 1 room @0");
+        CHECK.fault(4, "bus switches 1 room @13 jitter");
+        CHECK.fault(4, "bus switches 1 room 12 jitter @401");
+        CHECK.fault(4, "bus switches 1 room 12 jitter 400 window @0");
+        CHECK.fault(4, "bus switches 1 room 12 jitter 400 window @101");
+        CHECK.fault(4, "bus switches 1 room 12 jitter 400 window 100 skew @0");
+        CHECK.fine("bus switches 3 room 1 jitter 0 window 1 skew 1" + tail, 1);
+        CHECK.fault(4, BUS + ";end a at @2");
+        CHECK.fault(4, "bus switches 3 room 1 jitter 0 window 1 skew 1;end a at 2;end b at @3");
+        CHECK.fault(4, ENDS + ";link k from a gap @0");
+        CHECK.fault(4, ENDS + ";link k from a gap @4");
+        CHECK.fault(4, ENDS + ";link k from a gap @12");
+        CHECK.fault(4, ENDS + ";link k from a gap @512");
+        CHECK.fault(4, ENDS + ";link k from a gap 8 length @0 to b");
+        CHECK.fault(4, ENDS + ";link k from a gap 8 length @9 to b");
+        CHECK.fault(4, ENDS + ";link k from a gap 32 length @33 to b");
+        CHECK.fault(4, ENDS + ";link k from a gap 64 length @41 to b");
         for (int gap = 8; gap <= 256; gap *= 2) {
-            fine(ENDS + ";link k from a gap " + gap + " length " + Math.min(40, gap) + " to b", 1);
+            CHECK.fine(ENDS + ";link k from a gap " + gap + " length " + Math.min(40, gap) + " to b", 1);
         }
     }
 
     private static void form() {
-        fault(1, "@");
-        fault(1, "    @");
-        fault(1, "@;" + GOOD);
-        fault(1, "@switches");
-        fault(1, "@7");
-        fault(1, "bus@");
-        fault(1, "bus @2");
-        fault(1, "bus @room 2");
-        fault(1, "bus switches @two");
-        fault(1, "bus switches @;");
-        fault(1, BUS + " @end a at 0");
-        fault(1, BUS + " @7");
-        fault(1, BUS + "; @");
-        fault(1, GOOD + ";@");
-        fault(1, GOOD + "; @;");
-        fault(1, GOOD + "; @foo");
-        fault(1, BUS + ";end @end at 0");
-        fault(1, BUS + ";end @bus at 0");
-        fault(1, BUS + ";end @link at 0");
-        fault(1, BUS + ";end @7");
-        fault(1, BUS + ";end a @on 0");
-        fault(1, BUS + ";end a at @b");
-        fault(1, BUS + ";end a at 0 @0");
-        fault(1, ENDS + ";link @bus from a");
-        fault(1, ENDS + ";link k @to a");
-        fault(1, ENDS + ";link k from @end");
-        fault(1, ENDS + ";link k from @8");
-        fault(1, ENDS + ";link k from a @length 8");
-        fault(1, ENDS + ";link k from a gap @a");
-        fault(1, ENDS + ";link k from a gap 8 @to b");
-        fault(1, ENDS + ";link k from a gap 8 length 8 @b");
-        fault(1, ENDS + ";link k from a gap 8 length 8 to @");
-        fault(1, ENDS + ";link k from a gap 8 length 8 to  @;");
-        fault(1, ENDS + ";link k from a gap 8 length 8 to @link");
-        fault(1, ENDS + ";link k from a gap 8 length 8 to b @end f at 0");
-        fault(1, ENDS + ";link k from a gap 8 length 8 to b @8");
-        fault(1, ENDS + ";link k from a gap 8 length 8 to b c d @e");
-        fault(1, ENDS + ";link k from a gap 8 length 8 to b c d @nobody");
-        fault(1, ENDS + ";link k from a gap 8 length 8 to b c d @b");
+        CHECK.fault(1, "@");
+        CHECK.fault(1, "    @");
+        CHECK.fault(1, "@;" + GOOD);
+        CHECK.fault(1, "@switches");
+        CHECK.fault(1, "@7");
+        CHECK.fault(1, "bus@");
+        CHECK.fault(1, "bus @2");
+        CHECK.fault(1, "bus @room 2");
+        CHECK.fault(1, "bus switches @two");
+        CHECK.fault(1, "bus switches @;");
+        CHECK.fault(1, BUS + " @end a at 0");
+        CHECK.fault(1, BUS + " @7");
+        CHECK.fault(1, BUS + "; @");
+        CHECK.fault(1, GOOD + ";@");
+        CHECK.fault(1, GOOD + "; @;");
+        CHECK.fault(1, GOOD + "; @foo");
+        CHECK.fault(1, BUS + ";end @end at 0");
+        CHECK.fault(1, BUS + ";end @bus at 0");
+        CHECK.fault(1, BUS + ";end @link at 0");
+        CHECK.fault(1, BUS + ";end @7");
+        CHECK.fault(1, BUS + ";end a @on 0");
+        CHECK.fault(1, BUS + ";end a at @b");
+        CHECK.fault(1, BUS + ";end a at 0 @0");
+        CHECK.fault(1, ENDS + ";link @bus from a");
+        CHECK.fault(1, ENDS + ";link k @to a");
+        CHECK.fault(1, ENDS + ";link k from @end");
+        CHECK.fault(1, ENDS + ";link k from @8");
+        CHECK.fault(1, ENDS + ";link k from a @length 8");
+        CHECK.fault(1, ENDS + ";link k from a gap @a");
+        CHECK.fault(1, ENDS + ";link k from a gap 8 @to b");
+        CHECK.fault(1, ENDS + ";link k from a gap 8 length 8 @b");
+        CHECK.fault(1, ENDS + ";link k from a gap 8 length 8 to @");
+        CHECK.fault(1, ENDS + ";link k from a gap 8 length 8 to  @;");
+        CHECK.fault(1, ENDS + ";link k from a gap 8 length 8 to @link");
+        CHECK.fault(1, ENDS + ";link k from a gap 8 length 8 to b @end f at 0");
+        CHECK.fault(1, ENDS + ";link k from a gap 8 length 8 to b @8");
+        CHECK.fault(1, ENDS + ";link k from a gap 8 length 8 to b c d @e");
+        CHECK.fault(1, ENDS + ";link k from a gap 8 length 8 to b c d @nobody");
+        CHECK.fault(1, ENDS + ";link k from a gap 8 length 8 to b c d @b");
     }
 
     private static void tokens() {
-        fault(1, GOOD + "@.");
-        fault(1, GOOD + "@" + (char) 9);
-        fault(1, GOOD + "@" + (char) 0);
-        fault(1, GOOD + "@" + (char) 225);
-        fault(1, "@Bus");
-        fault(1, BUS + ";end a@_");
-        fault(1, BUS + ";end @abcdefghi at 0");
-        fault(1, "@switchess");
-        fault(1, "bus switches @0001");
-        fault(1, "bus switches @1000");
-        fault(1, BUS + ";end a@{");
-        fault(1, BUS + ";end a@`");
-        fault(1, BUS + ";end a at 0@:");
-        fault(1, BUS + ";end a at 0@/");
+        CHECK.fault(1, GOOD + "@.");
+        CHECK.fault(1, GOOD + "@" + (char) 9);
+        CHECK.fault(1, GOOD + "@" + (char) 0);
+        CHECK.fault(1, GOOD + "@" + (char) 225);
+        CHECK.fault(1, "@Bus");
+        CHECK.fault(1, BUS + ";end a@_");
+        CHECK.fault(1, BUS + ";end @abcdefghi at 0");
+        CHECK.fault(1, "@switchess");
+        CHECK.fault(1, "bus switches @0001");
+        CHECK.fault(1, "bus switches @1000");
+        CHECK.fault(1, BUS + ";end a@{");
+        CHECK.fault(1, BUS + ";end a@`");
+        CHECK.fault(1, BUS + ";end a at 0@:");
+        CHECK.fault(1, BUS + ";end a at 0@/");
     }
 
     private static void namesAndEnds() {
-        fault(2, ENDS + ";link k from @f gap");
-        fault(2, ENDS + ";link k from @k gap");
-        fault(2, GOOD + ";link m from @k gap 8");
-        fault(2, GOOD + ";link m from b gap 8 length 8 to @k");
-        fault(2, ENDS + ";link k from a gap 8 length 8 to @k");
-        fault(2, ENDS + ";link k from a gap 8 length 8 to b @nobody c");
-        fault(2, ENDS + ";link k from a gap 8 length 8 to b @to");
-        fault(3, ENDS + ";end @a at 0");
-        fault(3, GOOD + ";end @k at 0");
-        fault(3, ENDS + ";link @a from a");
-        fault(3, GOOD + ";link @k from a");
-        fault(3, ENDS + ";link k from a gap 8 length 8 to @a");
-        fault(3, ENDS + ";link k from a gap 8 length 8 to b @a");
-        fault(3, ENDS + ";link k from a gap 8 length 8 to b @b");
-        fault(3, ENDS + ";link k from a gap 8 length 8 to b c @b");
-        fault(3, ENDS + ";link k from a gap 8 length 8 to b c @c");
-        fault(3, BUS + ";@" + BUS);
-        fault(3, GOOD + "; @bus");
+        CHECK.fault(2, ENDS + ";link k from @f gap");
+        CHECK.fault(2, ENDS + ";link k from @k gap");
+        CHECK.fault(2, GOOD + ";link m from @k gap 8");
+        CHECK.fault(2, GOOD + ";link m from b gap 8 length 8 to @k");
+        CHECK.fault(2, ENDS + ";link k from a gap 8 length 8 to @k");
+        CHECK.fault(2, ENDS + ";link k from a gap 8 length 8 to b @nobody c");
+        CHECK.fault(2, ENDS + ";link k from a gap 8 length 8 to b @to");
+        CHECK.fault(3, ENDS + ";end @a at 0");
+        CHECK.fault(3, GOOD + ";end @k at 0");
+        CHECK.fault(3, ENDS + ";link @a from a");
+        CHECK.fault(3, GOOD + ";link @k from a");
+        CHECK.fault(3, ENDS + ";link k from a gap 8 length 8 to @a");
+        CHECK.fault(3, ENDS + ";link k from a gap 8 length 8 to b @a");
+        CHECK.fault(3, ENDS + ";link k from a gap 8 length 8 to b @b");
+        CHECK.fault(3, ENDS + ";link k from a gap 8 length 8 to b c @b");
+        CHECK.fault(3, ENDS + ";link k from a gap 8 length 8 to b c @c");
+        CHECK.fault(3, BUS + ";@" + BUS);
+        CHECK.fault(3, GOOD + "; @bus");
     }
 
     private static void many() {
         String six = ENDS + ";end f at 0";
-        fault(5, six + ";@end g at 0");
-        fault(5, six + ";@end");
-        fault(5, six + ";@end a at 7");
+        CHECK.fault(5, six + ";@end g at 0");
+        CHECK.fault(5, six + ";@end");
+        CHECK.fault(5, six + ";@end a at 7");
         StringBuilder eight = new StringBuilder(ENDS);
         for (char name = 'p'; name < 'x'; name++) {
             eight.append(";link " + name + " from a gap 8 length 1 to b");
         }
-        fine(eight.toString(), 8);
-        fault(5, eight + "; @link x from a gap 8 length 1 to b");
-        fault(5, eight + ";@link");
-        fine(eight + ";end f at 0", 8);
+        CHECK.fine(eight.toString(), 8);
+        CHECK.fault(5, eight + "; @link x from a gap 8 length 1 to b");
+        CHECK.fault(5, eight + ";@link");
+        CHECK.fine(eight + ";end f at 0", 8);
     }
 
     private static void lacks() {
-        fault(6, "@end");
-        fault(6, "  @end a at 0;" + BUS);
-        fault(6, "@link k from a");
-        fault(6, BUS + "@");
-        fault(6, BUS + "  @");
-        fault(6, ENDS + "@");
+        CHECK.fault(6, "@end");
+        CHECK.fault(6, "  @end a at 0;" + BUS);
+        CHECK.fault(6, "@link k from a");
+        CHECK.fault(6, BUS + "@");
+        CHECK.fault(6, BUS + "  @");
+        CHECK.fault(6, ENDS + "@");
     }
 
     private static void busStays() {
