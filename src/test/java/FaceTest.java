@@ -1,12 +1,15 @@
+import java.io.IOException;
 import java.lang.reflect.Constructor;
 import java.lang.reflect.Field;
 import java.lang.reflect.Method;
 import java.lang.reflect.Modifier;
+import java.nio.file.Files;
+import java.nio.file.Path;
 import java.util.Arrays;
 import java.util.Set;
 import java.util.TreeSet;
 
-/** The class has the document's face and no other. */
+/** The class has the document's face, "The public face", and no other. */
 final class FaceTest {
     private static final String[] FACE = {
         "int feed(int, int, int, int, int)", "int bus(int)", "int fault()", "int where()", "int about(int)",
@@ -20,7 +23,7 @@ final class FaceTest {
         "int willLose(int, int, int)", "int quiet()", "boolean keep()", "boolean back()", "int silent(int)",
         "int size(int)", "int trouble()"};
 
-    public static void main(String[] args) {
+    public static void main(String[] args) throws IOException {
         Check check = new Check("FaceTest");
         Class<?> face = GapLinks.class;
         check.due("NONE", -1, GapLinks.NONE);
@@ -50,7 +53,27 @@ final class FaceTest {
             check.due(inside + " is static", true, Modifier.isStatic(inside.getModifiers()));
             check.due(inside + " is public", false, Modifier.isPublic(inside.getModifiers()));
         }
+        asToldInTheDocument(check);
         check.finish();
+    }
+
+    /** "The public face": each line of it stands in the source in the same words, and in the same order. */
+    private static void asToldInTheDocument(Check check) throws IOException {
+        String source = Files.readString(Path.of("src/main/java/GapLinks.java"));
+        String document = Files.readString(Path.of("../shared/DOC.md"));
+        int from = document.indexOf("```java");
+        int lines = 0;
+        int behind = 0;
+        for (String line : document.substring(from, document.indexOf("```", from + 3)).split("\n")) {
+            if (line.startsWith("    public ")) {
+                boolean isConstant = line.contains("=");
+                int at = source.indexOf(isConstant ? line : line.replace(";", " {"), behind);
+                check.due("the source has, in its place," + line, true, at >= 0);
+                behind = Math.max(behind, at);
+                lines++;
+            }
+        }
+        check.due("lines of the face", FACE.length + 2, lines);
     }
 
     private static String told(Method method) {

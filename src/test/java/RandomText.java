@@ -27,23 +27,35 @@ final class RandomText {
                 + " jitter " + (random.nextBoolean() ? random.nextInt(401) : random.nextInt(30))
                 + " window " + (random.nextBoolean() ? 1 + random.nextInt(100) : 1 + random.nextInt(4))
                 + " skew " + (random.nextBoolean() ? 1 + random.nextInt(999) : 1 + random.nextInt(40)));
-        for (int e = 0; e < ends; e++) {
-            text.append(gapOrNone(random) + ";" + gapOrNone(random) + "end " + names.get(e) + " at "
-                    + random.nextInt(switches));
+        // some ends may be told behind links of those told ahead of them
+        int early = random.nextInt(3) == 0 ? 2 + random.nextInt(ends - 1) : ends;
+        int linksOfEarly = early == ends ? links : random.nextInt(links + 1);
+        addEnds(random, text, names.subList(0, early), switches);
+        addLinks(random, text, names.subList(0, early), names.subList(ends, ends + linksOfEarly), light);
+        addEnds(random, text, names.subList(early, ends), switches);
+        addLinks(random, text, names.subList(0, ends), names.subList(ends + linksOfEarly, ends + links), light);
+        return text + gapOrNone(random);
+    }
+
+    private static void addEnds(Random random, StringBuilder text, List<String> names, int switches) {
+        for (String name : names) {
+            text.append(gapOrNone(random) + ";" + gapOrNone(random) + "end " + name + " at " + random.nextInt(switches));
         }
-        for (int l = 0; l < links; l++) {
+    }
+
+    private static void addLinks(Random random, StringBuilder text, List<String> ends, List<String> names, boolean light) {
+        for (String name : names) {
             int gap = GAPS[light ? 1 + random.nextInt(5) : random.nextInt(6)];
             int most = Math.min(40, light ? Math.max(1, gap / 6) : gap);
-            List<String> to = new ArrayList<>(names.subList(0, ends));
+            List<String> to = new ArrayList<>(ends);
             Collections.shuffle(to, random);
-            text.append(";link " + names.get(ends + l) + " from " + to.get(0) + " gap " + gap + " length "
+            text.append(";link " + name + " from " + to.get(0) + " gap " + gap + " length "
                     + (1 + random.nextInt(most)) + " to");
-            int receivers = 1 + random.nextInt(Math.min(3, ends - 1));
+            int receivers = 1 + random.nextInt(Math.min(3, ends.size() - 1));
             for (int i = 1; i <= receivers; i++) {
                 text.append(" " + to.get(i));
             }
         }
-        return text + gapOrNone(random);
     }
 
     private static String gapOrNone(Random random) {
